@@ -853,9 +853,9 @@ public final class SpellScribe {
         private final Row word = new Row(MOST_SIGNS);
         private final Row other = new Row(MOST_LETTERS);
         private final Row table = new Row((MOST_SIGNS + 1) * WIDTH);
-        private final Row costs = new Row(MOST_SUGGESTED);
         private final Row listed = new Row(MOST_SUGGESTED);
-        private final Row listedCosts = new Row(MOST_SUGGESTED);
+        // For each cost, how many suggestions are listed that cost as much or less.
+        private final Row upToCost = new Row(MOST_COST + 1);
         private int wordSize;
         private int count;
 
@@ -876,7 +876,11 @@ public final class SpellScribe {
         }
 
         int costOfListed(int suggestion) {
-            return listedCosts.get(suggestion);
+            int cost = 1;
+            while (cost < MOST_COST && suggestion >= upToCost.get(cost)) {
+                cost++;
+            }
+            return cost;
         }
 
         /** Looks only at words, and at parts of the table, that are within the reach. */
@@ -885,23 +889,26 @@ public final class SpellScribe {
             for (int i = 0; i < wordSize; i++) {
                 word.set(i, text.letterOfWord(wordNumber, i));
             }
-            for (int i = 0; i < suggestable.count(); i++) {
-                costs.set(i, costTo(suggestable.wordOn(i), reach));
-            }
             count = 0;
-            // The word itself is the only one that costs nothing.
             for (int cost = 1; cost <= MOST_COST; cost++) {
-                listThoseAt(cost, suggestable);
+                upToCost.set(cost, 0);
+            }
+            for (int i = 0; i < suggestable.count(); i++) {
+                int spelled = suggestable.wordOn(i);
+                int cost = costTo(spelled, reach);
+                // The word itself is the only one that costs nothing.
+                if (isIn(cost, 1, MOST_COST)) {
+                    addSuggestion(spelled, cost);
+                }
             }
         }
 
-        private void listThoseAt(int cost, WordBook suggestable) {
-            for (int i = 0; i < suggestable.count(); i++) {
-                if (costs.get(i) == cost) {
-                    listed.set(count, suggestable.wordOn(i));
-                    listedCosts.set(count, cost);
-                    count++;
-                }
+        /** Words are added in their order, so each one goes behind those that cost as much. */
+        private void addSuggestion(int spelled, int cost) {
+            listed.insert(upToCost.get(cost), spelled, count);
+            count++;
+            for (int dearer = cost; dearer <= MOST_COST; dearer++) {
+                upToCost.set(dearer, upToCost.get(dearer) + 1);
             }
         }
 
@@ -1179,7 +1186,12 @@ public final class SpellScribe {
         void choose(Row readingSets, Row chosen, int from, int to) {
             for (int word = to - 1; word >= from; word--) {
                 for (int reading = NONE; reading < READINGS; reading++) {
-                    setFewest(word, reading, word + 1 < to ? fewestBehind(readingSets, word + 1, reading) : 0);
+                    int brokenBehind = 0;
+                    if (word + 1 < to) {
+                        int next = bestReading(readingSets.get(word + 1), word + 1, reading);
+                        brokenBehind = countBroken(word + 1, next, reading);
+                    }
+                    setFewest(word, reading, brokenBehind);
                 }
             }
             int before = NONE;
@@ -1195,11 +1207,6 @@ public final class SpellScribe {
             }
             int what = told.get(reading / 2 * KINDS + nextReading / 2);
             return what == APART || (what == AGREE && reading % 2 != nextReading % 2);
-        }
-
-        private int fewestBehind(Row readingSets, int word, int readingBefore) {
-            int best = bestReading(readingSets.get(word), word, readingBefore);
-            return countBroken(word, best, readingBefore);
         }
 
         /** Returns the first of the readings by which the fewest are broken from the word before on. */
