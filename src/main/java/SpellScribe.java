@@ -540,6 +540,9 @@ public final class SpellScribe {
 
     /** Unlike words in their order, each with a number that is not 0. */
     private static final class WordBook {
+        // Each step halves what is left, and no book has 2 to the power of this many words.
+        private static final int SEARCH_STEPS = 16;
+
         private final Row spelled;
         private final Row values;
         private final int most;
@@ -596,7 +599,7 @@ public final class SpellScribe {
         private int placeOf(int word) {
             int low = 0;
             int high = count;
-            for (int step = 0; step < Integer.SIZE && low < high; step++) {
+            for (int step = 0; step < SEARCH_STEPS && low < high; step++) {
                 int middle = (low + high) / 2;
                 if (spelled.get(middle) < word) {
                     low = middle + 1;
