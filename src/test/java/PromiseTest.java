@@ -102,22 +102,24 @@ public final class PromiseTest {
     }
 
     private static SpellScribe write(SpellScribe x, String text) {
+        int end = x.length();
         for (int i = 0; i < text.length(); i++) {
-            x.put(x.length(), text.charAt(i));
+            x.put(end + i, text.charAt(i));
         }
         return x;
     }
 
     private static void rewrite(SpellScribe x, String text) {
-        while (x.length() > 0) {
-            x.take(x.length() - 1);
+        for (int left = x.length(); left > 0; left--) {
+            x.take(left - 1);
         }
         write(x, text);
     }
 
     private static void text(String what, SpellScribe x, String want) {
         StringBuilder got = new StringBuilder();
-        for (int i = 0; i < x.length(); i++) {
+        int size = x.length();
+        for (int i = 0; i < size; i++) {
             got.append(x.signAt(i));
         }
         if (!got.toString().equals(want)) {
