@@ -301,7 +301,7 @@ public final class SpellScribe {
             throw new IndexOutOfBoundsException("there is no such word");
         }
         int size = text.wordSize(word);
-        for (int ahead = 1; ahead < size && ahead < MOST_SIGNS; ahead++) {
+        for (int ahead = 1; ahead < size; ahead++) {
             if (isRightPart(word, 0, ahead) && isRightPart(word, ahead, size)) {
                 return ahead;
             }

@@ -57,6 +57,7 @@ public final class ModelTest {
         private final StringBuilder told = new StringBuilder();
         private final int alphabet = 2 + pick(7);
         private final boolean isBig = chance(3);
+        private final boolean isTiny = !isBig && chance(5);
         private int calls;
         private boolean isOver;
 
@@ -96,8 +97,8 @@ public final class ModelTest {
         }
 
         void go() {
-            int stems = isBig ? 12 : 1 + pick(5);
-            int rules = isBig ? 8 : pick(5);
+            int stems = isBig ? 12 : isTiny ? 4 + pick(5) : 1 + pick(5);
+            int rules = isBig ? 8 : isTiny ? pick(2) : pick(5);
             for (int i = 0; i < stems; i++) {
                 addStem();
             }
@@ -150,7 +151,7 @@ public final class ModelTest {
         }
 
         private void addStem() {
-            draft(chance(3) ? "" : chance(10) ? randomWord(6, 10) : randomWord(isBig ? 2 : 1, 4));
+            draft(chance(3) ? "" : chance(10) ? randomWord(6, 10) : randomWord(isBig ? 2 : 1, isTiny ? 1 : 4));
             int flags = badOr(isBig ? 63 : pick(64), -1, 64);
             int kind = badOr(pick(4), -1, 4);
             int form = badOr(pick(2), -1, 2);
@@ -231,6 +232,12 @@ public final class ModelTest {
         }
 
         private void fillText() {
+            if (isTiny) {
+                for (int i = 0; i < 100; i++) {
+                    put(i, i % 2 == 0 ? randomLetter() : chance(2) ? '.' : ' ');
+                }
+                return;
+            }
             int most = chance(10) ? 100 : 10 + pick(50);
             StringBuilder wanted = new StringBuilder();
             while (wanted.length() < most) {
@@ -318,9 +325,11 @@ public final class ModelTest {
         }
 
         private void askMistakes() {
-            long count = both("mistakes()", x::mistakes, model::mistakes);
+            long count = chance(50) ? model.mistakes() : both("mistakes()", x::mistakes, model::mistakes);
             int mistake = badOr(count > 0 ? pick((int) count) : 0, -1, (int) count);
-            both("mistakeKind(" + mistake + ")", () -> x.mistakeKind(mistake), () -> model.mistakeKind(mistake));
+            if (chance(50)) {
+                both("mistakeKind(" + mistake + ")", () -> x.mistakeKind(mistake), () -> model.mistakeKind(mistake));
+            }
             both("mistakeAt(" + mistake + ")", () -> x.mistakeAt(mistake), () -> model.mistakeAt(mistake));
         }
 

@@ -48,6 +48,7 @@ public final class PromiseTest {
         costsOfChanges();
         suggestedLetters();
         madeWords();
+        asMuchAsThereCanBe();
         throwingChangesNothing();
         System.out.println(wrong == 0 ? "PromiseTest: all answers are as due" : "PromiseTest: " + wrong + " are not as due");
         if (wrong != 0) {
@@ -915,21 +916,87 @@ public final class PromiseTest {
         drafted(x, "abc").bar();
         drafted(x, "h").own(0, 0);
         due("32 neither barred nor own words count", x.made(), 3);
-        SpellScribe y = new SpellScribe();
-        stem(y, "a", 63, 0, 0, 0);
+    }
+
+    private static void asMuchAsThereCanBe() {
+        mostMadeWords();
+        mostWordsAndMistakes();
+        mostSentences();
+    }
+
+    private static void mostMadeWords() {
+        SpellScribe x = new SpellScribe();
+        stem(x, "a", 63, 0, 0, 0);
         String[] endings = {"b", "c", "d", "e", "f", "g"};
         for (String ending : endings) {
-            y.more(ending(y, 0, 0, ending), 1);
+            x.more(ending(x, 0, 0, ending), 1);
         }
-        drafted(y, "h").rule(0, false, 0, ' ', NONE, NONE);
-        drafted(y, "hh").rule(0, false, 0, ' ', NONE, NONE);
-        due("32 as many as eight rules make", y.made(), 129);
+        drafted(x, "h").rule(0, false, 0, ' ', NONE, NONE);
+        drafted(x, "hh").rule(0, false, 0, ' ', NONE, NONE);
+        due("32 as many as eight rules make", x.made(), 129);
         for (int i = 1; i < 12; i++) {
-            stem(y, i < 7 ? "h" + endings[i - 1] + "a" : "g" + endings[i - 7] + "a", 63, 0, 0, 0);
+            stem(x, i < 7 ? "h" + endings[i - 1] + "a" : "g" + endings[i - 7] + "a", 63, 0, 0, 0);
         }
-        due("32 as many as there can be", y.made(), 12 * 129);
-        write(y, "gfagg hhgfabb");
-        due("32 the last ones too", (y.isRight(0) ? 1 : 0) + (y.isRight(1) ? 2 : 0), 3);
+        due("32 as many as there can be", x.made(), 12 * 129);
+        write(x, "gfagg hhgfabb hhhhhhhhhg");
+        due("32 the last ones too", (x.isRight(0) ? 1 : 0) + (x.isRight(1) ? 2 : 0), 3);
+        drafted(x, "hhhhhh").own(0, 0);
+        drafted(x, "hhhhhhh").own(0, 0);
+        for (char last = 'a'; last <= 'h'; last++) {
+            drafted(x, "hhhhhhhhh" + last).own(0, 0);
+        }
+        due("28 the last one of all", x.suggested(2, 0, 9), 'f');
+        due("28 the last one of all", x.suggested(2, 1, 9), 'h');
+    }
+
+    private static void mostWordsAndMistakes() {
+        SpellScribe x = new SpellScribe();
+        style(x, 0, "a", "h");
+        for (int i = 0; i < 100; i++) {
+            x.put(i, i % 2 == 0 ? 'h' : ' ');
+        }
+        due("25 two for each word", x.mistakes(), 100);
+        due("26 the last one", x.mistakeKind(99), SpellScribe.STYLE);
+        due("27 the last one", x.mistakeAt(99), 49);
+        stem(x, "h", 0, 1, 0, 0);
+        stem(x, "h", 0, 2, 1, 0);
+        stem(x, "g", 0, 3, 1, 0);
+        for (int kind = 1; kind < 3; kind++) {
+            x.tell(kind, kind, SpellScribe.APART);
+        }
+        due("25 styles only", x.mistakes(), 50);
+        due("23 turn about", x.reading(48) * 10 + x.reading(49), 25);
+        x.take(98);
+        x.put(98, 'g');
+        due("25 but one", x.mistakes(), 49);
+        x.tell(1, 3, SpellScribe.APART);
+        due("23 from the last one on", x.reading(0), 5);
+        x.tell(2, 3, SpellScribe.APART);
+        due("23 one is broken anyway", x.reading(0), 2);
+        due("25 the last one is broken", x.mistakeKind(49), SpellScribe.BROKEN);
+        due("27 the last one is broken", x.mistakeAt(49), 49);
+        due("24 the last one", x.split(49), NONE);
+        due("28 the last one", x.suggestions(49), 1);
+    }
+
+    private static void mostSentences() {
+        SpellScribe x = new SpellScribe();
+        for (int i = 0; i < 99; i++) {
+            due("14 no words", x.put(i, '.'), 0);
+        }
+        due("14 a hundredth sentence", x.put(99, 'a'), 1);
+        due("15 it goes on, where one ended", x.take(0), 0);
+        due("14 as long as can be", x.put(98, 'b'), 1);
+        due("14 in front", x.take(98), 1);
+        due("14 in front", x.put(0, 'a'), 1);
+        due("19 two words", x.words(), 2);
+        due("25 two are wrong", x.mistakes(), 2);
+        due("27 the last one", x.mistakeAt(1), 1);
+        rewrite(x, "");
+        for (int i = 0; i < 100; i++) {
+            x.put(0, '.');
+        }
+        due("15 a hundred points", x.take(50), 0);
     }
 
     private static void throwingChangesNothing() {
