@@ -487,23 +487,23 @@ public final class SpellScribe {
     }
 
     private static int withLetter(int word, int letter) {
-        return word << LETTER_BITS | letter;
+        return (word << LETTER_BITS) | letter;
     }
 
     /** Returns 0 for an a, to 7 for an h; the place is one of the word. */
     private static int letterOf(int word, int place) {
-        return word >> LETTER_BITS * (sizeOf(word) - 1 - place) & LETTER_MASK;
+        return (word >> (LETTER_BITS * (sizeOf(word) - 1 - place))) & LETTER_MASK;
     }
 
     private static int partOf(int word, int from, int to) {
-        int mark = 1 << LETTER_BITS * (to - from);
-        int cut = word >> LETTER_BITS * (sizeOf(word) - to);
-        return mark | cut & mark - 1;
+        int mark = 1 << (LETTER_BITS * (to - from));
+        int cut = word >> (LETTER_BITS * (sizeOf(word) - to));
+        return mark | (cut & (mark - 1));
     }
 
     private static int joined(int first, int second) {
-        int mark = 1 << LETTER_BITS * sizeOf(second);
-        return first * mark | second & mark - 1;
+        int mark = 1 << (LETTER_BITS * sizeOf(second));
+        return (first * mark) | (second & (mark - 1));
     }
 
     /** A row of numbers that can be asked and written at any place: outside of it there is 0. */
@@ -662,7 +662,7 @@ public final class SpellScribe {
         }
 
         boolean isAmong(int flags, boolean ofEndings) {
-            return isEnd == ofEndings && (flags >> flag & 1) != 0;
+            return isEnd == ofEndings && ((flags >> flag) & 1) != 0;
         }
 
         /** Returns what comes of a word, NO_WORD if the rule cannot be used on it. */
@@ -820,7 +820,7 @@ public final class SpellScribe {
             if (word == NO_WORD || isBarred(word)) {
                 return 0;
             }
-            return ownWords.valueOf(word) | madeWords.valueOf(word) & READING_MASK | readingsAsJoin(word);
+            return ownWords.valueOf(word) | (madeWords.valueOf(word) & READING_MASK) | readingsAsJoin(word);
         }
 
         private int readingsAsJoin(int word) {
@@ -844,7 +844,7 @@ public final class SpellScribe {
         }
 
         private int readingsInJoin(int word, int from, int to) {
-            return madeWords.valueOf(partOf(word, from, to)) >> JOIN_SHIFT & READING_MASK;
+            return (madeWords.valueOf(partOf(word, from, to)) >> JOIN_SHIFT) & READING_MASK;
         }
     }
 
@@ -965,7 +965,7 @@ public final class SpellScribe {
         private final Row wordStarts = new Row(MOST_WORDS);
         private final Row wordSizes = new Row(MOST_WORDS);
         private final Row spelled = new Row(MOST_WORDS);
-        // One more than there are sentences: where the last one ends, the next one would begin.
+        // One more than there are sentences: where the last one ends, another one would begin.
         private final Row sentenceStarts = new Row(MOST_SENTENCES + 1);
         private final Row firstWords = new Row(MOST_SENTENCES + 1);
         private int size;
@@ -1217,7 +1217,7 @@ public final class SpellScribe {
             int best = NONE;
             int least = FAR;
             for (int reading = 0; reading < READINGS; reading++) {
-                if ((readingSet >> reading & 1) != 0) {
+                if (((readingSet >> reading) & 1) != 0) {
                     int broken = countBroken(word, reading, readingBefore);
                     if (broken < least) {
                         least = broken;

@@ -69,7 +69,9 @@ public final class ModelTest {
             try {
                 return Long.toString(call.answer());
             } catch (IndexOutOfBoundsException | IllegalArgumentException | IllegalStateException e) {
-                return "throws." + e.getClass().getSimpleName();
+                String thrower = e.getStackTrace()[0].getClassName();
+                boolean isByStatement = thrower.equals("SpellScribe") || thrower.startsWith("ModelTest");
+                return "throws." + e.getClass().getSimpleName() + (isByStatement ? "" : " by " + thrower);
             }
         }
 
@@ -147,7 +149,10 @@ public final class ModelTest {
         }
 
         private int badOr(int good, int... bad) {
-            return chance(2) ? bad[pick(bad.length)] : good;
+            if (!chance(2)) {
+                return good;
+            }
+            return chance(20) ? (chance(50) ? Integer.MIN_VALUE : Integer.MAX_VALUE) : bad[pick(bad.length)];
         }
 
         private void addStem() {

@@ -68,7 +68,8 @@ public final class PromiseTest {
         try {
             call.answer();
         } catch (RuntimeException e) {
-            got = e.getClass().getSimpleName();
+            String thrower = e.getStackTrace()[0].getClassName();
+            got = e.getClass().getSimpleName() + (thrower.equals("SpellScribe") ? "" : " by " + thrower);
         }
         if (!got.equals(want)) {
             wrong++;
