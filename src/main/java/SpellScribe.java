@@ -937,11 +937,20 @@ public final class SpellScribe {
             if (line == 0 && column == 0) {
                 return 0;
             }
-            int putOrLeft = Math.min(costBefore(line - 1, column, reach), costBefore(line, column - 1, reach));
-            int becoming = costBefore(line - 1, column - 1, reach) + costToBecome(line - 1, column - 1);
-            int least = Math.min(putOrLeft + COST_PUT_OR_LEFT, becoming);
-            boolean isSwapped = word.get(line - 1) == other.get(column - 2) && word.get(line - 2) == other.get(column - 1);
-            return isSwapped ? Math.min(least, costBefore(line - 2, column - 2, reach) + COST_SWAP) : least;
+            int ahead = Math.min(costBefore(line - 1, column, reach), costBefore(line, column - 1, reach));
+            int least = ahead + COST_PUT_OR_LEFT;
+            if (line > 0 && column > 0) {
+                least = Math.min(least, costBefore(line - 1, column - 1, reach) + costToBecome(line - 1, column - 1));
+            }
+            if (line > 1 && column > 1 && isSwapped(line, column)) {
+                least = Math.min(least, costBefore(line - 2, column - 2, reach) + COST_SWAP);
+            }
+            return least;
+        }
+
+        /** Tells whether the last two letters of that part of the word are those of the other part, swapped. */
+        private boolean isSwapped(int line, int column) {
+            return word.get(line - 1) == other.get(column - 2) && word.get(line - 2) == other.get(column - 1);
         }
 
         private int costBefore(int line, int column, int reach) {
