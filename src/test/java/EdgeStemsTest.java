@@ -8,6 +8,7 @@ public final class EdgeStemsTest {
     private static final String TEN = "abcdefghab";
 
     public static void main(String[] args) {
+        constants();
         newObjects();
         drafts();
         stems();
@@ -18,6 +19,15 @@ public final class EdgeStemsTest {
         moreFlags();
         howMany();
         Edge.end("EdgeStemsTest");
+    }
+
+    private static void constants() {
+        Edge.holds("The constants", () -> {
+            Edge.due("there is none", SpellScribe.NONE, -1);
+            Edge.due("stems", SpellScribe.NEVER + " " + SpellScribe.JOINS_ONLY + " " + SpellScribe.JOINABLE, "1 2 4");
+            Edge.due("two kinds", SpellScribe.FREE + " " + SpellScribe.AGREE + " " + SpellScribe.APART, "0 1 2");
+            Edge.due("mistakes", SpellScribe.WRONG + " " + SpellScribe.BROKEN + " " + SpellScribe.STYLE, "0 1 2");
+        });
     }
 
     private static void newObjects() {
